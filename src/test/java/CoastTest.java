@@ -83,7 +83,10 @@ public final class CoastTest {
         Check.feed(x, "   ");
         Check.due("coast() of blanks", x.coast(), 0);
         Check.due("fault()", x.fault(), Check.NONE);
-        Check.due("cells", x.told(0), 0);
+        for (int what = 0; what <= 15; what++) Check.due("told(" + what + ") behind blanks", x.told(what), 0);
+        Check.due("set of days behind blanks", x.village(0, 0), 127);
+        Check.due("use behind blanks", x.village(1, 1), 0);
+        Check.due("posts behind blanks", x.village(0, 4), 0);
     }
 
     private static void faultyTextLeavesAll() {
@@ -215,6 +218,10 @@ public final class CoastTest {
         Check.dueFault("f5 0;p2 0 1 0;p2 0 1 0;", -14, 15);
         Check.dueFault("f5 0;p2 0 1 0;p3 0 1 0;p 002x", -14, 25);
         Check.dueFault("f5 0;p2 0 1 0;p0002 0 1 0;", -12, 15);
+        // Where the cell's number has a fault, that is the only one.
+        Check.dueFault("f5 0;p0 0 1 0;p;", -11, 15);
+        Check.dueFault("f5 0;p0 0 1 0;p0000;", -12, 15);
+        Check.dueFault("f5 0;p0 0 1 0;px", -11, 15);
     }
 
     private static void blanks() {

@@ -120,6 +120,12 @@ public final class DeedsTest {
         Check.due("hour(1) above", x.hour(1), Check.FULL);
         Check.due("hour(61) above", x.hour(61), Check.OUTSIDE);
         Check.due("drift(1) above", x.drift(1), Check.FULL);
+        FogNets y = Check.coast("f1 0;");
+        for (int i = 0; i < 150; i++) y.drift(60);
+        Check.due("drift(1) at 9000 days", y.drift(1), 0);
+        Check.due("days", y.told(6), 9001);
+        Check.due("drift(1) at 9001 days", y.drift(1), Check.FULL);
+        Check.due("hour(1) at 9001 days", y.hour(1), Check.FULL);
         x.undo(30);
         Check.due("days", x.told(6), 9030);
         Check.due("drift(60) above", x.drift(60), Check.FULL);
