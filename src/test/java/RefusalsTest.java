@@ -1,236 +1,225 @@
-import java.lang.reflect.Method;
+import java.util.ArrayList;
+import java.util.List;
 
-/** Every refusal of every promise, the first of several, and that what is refused changes nothing. */
+/**
+ * Each call with each of its arguments least, greatest, one below, one above and far out, in all ways to
+ * put them together, on four coasts: what it refuses, which refusal comes first, and (by Script) that
+ * what is refused changes nothing.
+ */
 public final class RefusalsTest {
-    private static final int MIN = Integer.MIN_VALUE, MAX = Integer.MAX_VALUE;
+    /**
+     * A call and what its arguments may be: a POST, CELL, VILLAGE, GOAT, IMAGE, or a number within bounds; an '!'
+     * where it is NOT without a COAST.
+     */
+    private static final String[] CALLS = {
+        "feed 0..255", "fault", "told 0..15", "post POST 0..4", "village VILLAGE 0..4", "goat GOAT 0..1",
+        "hour 1..60 !", "carry VILLAGE !", "lick POST 1..99", "mesh POST 0..9", "lamp boolean !", "drift 1..60 !",
+        "gets POST 0..99", "level POST 0..99", "shadow POST", "left !", "bestMesh POST 0..1", "bestCell POST 0..1",
+        "bestTwo POST POST 0..1", "lampCosts 0..99 !", "thirsty VILLAGE !", "lasts VILLAGE", "both !", "apart 0..99 !",
+        "share 0..999 VILLAGE", "yards GOAT 0..1", "clear 0..60 0..100", "got POST 0..1 0..40", "thick 0..2 !",
+        "lookAt 0..1 !", "needs POST 0..1 0..40", "write POST 0..99", "judge", "tear", "seed 0..2147483647", "keep IMAGE"};
 
-    private static FogNets asked;
-    private static String before;
+    /** A coast, and how many CELLS, POSTS and GOATS, and HOURS of the text it has. */
+    private static final class Ridge {
+        final String calls;
+        final int cells;
+        final int posts;
+        final int goats;
+        final int hours;
 
-    public static void main(String[] args) throws Exception {
-        withCoast();
-        without();
+        Ridge(String calls, int cells, int posts, int goats, int hours) {
+            this.calls = calls;
+            this.cells = cells;
+            this.posts = posts;
+            this.goats = goats;
+            this.hours = hours;
+        }
+
+        /** How many there are of what an argument names, or NONE, if it is a number. */
+        int howMany(String argument) {
+            switch (argument) {
+                case "CELL": return cells;
+                case "POST": return posts;
+                case "GOAT": return goats;
+                case "VILLAGE": case "IMAGE": return 2;
+                default: return Check.NONE;
+            }
+        }
+    }
+
+    private static final Ridge[] RIDGES = {
+        new Ridge("", 0, 0, 0, 0),
+        new Ridge("coast<f1 0;> seed(5) keep(1) hour(2) ", 1, 0, 0, 0),
+        new Ridge("coast<" + CoastTest.COAST + "> keep(0) seed(21) hour(3) lamp(true) got(0,1,3) write(0,12) feed(102) ", 5, 2, 2, 2),
+        new Ridge("coast<f12 20;h0 40;h1 40;h0 1;h0 2;h0 3;h0 4;h0 5;h0 6;h0 7;h0 8;h0 9;h0 20;p0 9 9 0;p2 8 9 1;p4 7 9 0;p6 2 9 1;"
+            + "p8 1 9 0;p11 0 9 1;u9 9;g0 1;g4 2;g11 3;g11 4;> hour(2) got(0,1,3) write(0,9) ", 12, 6, 4, 12)};
+
+    public static void main(String[] args) {
+        for (Ridge ridge : RIDGES) {
+            for (String call : CALLS) allWays(ridge, call.split(" "));
+            fog(ridge);
+            move(ridge);
+            led(ridge);
+            undo(ridge);
+            goBack(ridge);
+        }
         full();
         Check.end();
     }
 
-    private static void set(FogNets x) {
-        asked = x;
-        before = Seen.all(x);
+    private static int tries = 0;
+
+    private static void due(Ridge ridge, String call, int want) {
+        tries++;
+        Script.edge("refusals", ridge.calls + call + "=" + want);
     }
 
-    private static void due(int want, String name, Object... given) throws Exception {
-        Class<?>[] types = new Class<?>[given.length];
-        StringBuilder call = new StringBuilder(name).append('(');
-        for (int k = 0; k < given.length; k++) {
-            types[k] = given[k] instanceof Boolean ? boolean.class : int.class;
-            call.append(k == 0 ? "" : ", ").append(given[k]);
+    /** The values to try of an argument, those that are taken first. */
+    private static List<String> values(Ridge ridge, String argument) {
+        if (argument.equals("boolean")) return List.of("true", "false");
+        List<String> all = new ArrayList<>();
+        long least = 0;
+        long most = ridge.howMany(argument) - 1L;
+        if (ridge.howMany(argument) == Check.NONE) {
+            least = Long.parseLong(argument.substring(0, argument.indexOf('.')));
+            most = Long.parseLong(argument.substring(argument.lastIndexOf('.') + 1));
         }
-        Method m = FogNets.class.getMethod(name, types);
-        Check.due(call.append(')').toString(), (Integer) m.invoke(asked, given), want);
-        String now = Seen.all(asked);
-        if (!now.equals(before)) {
-            Check.due("what changed by " + call, 1, 0);
-            System.out.println("  " + before + "\n  " + now);
-            before = now;
+        all.add(String.valueOf(least));
+        all.add(String.valueOf(most));
+        all.add(String.valueOf(least - 1));
+        if (most < Integer.MAX_VALUE) all.add(String.valueOf(most + 1));
+        all.add(String.valueOf(Integer.MIN_VALUE));
+        all.add(String.valueOf(Integer.MAX_VALUE));
+        return all;
+    }
+
+    private static boolean isTaken(Ridge ridge, String argument, String value) {
+        if (argument.equals("boolean")) return true;
+        long x = Long.parseLong(value);
+        int many = ridge.howMany(argument);
+        if (many != Check.NONE) return x >= 0 && x < many;
+        return x >= Long.parseLong(argument.substring(0, argument.indexOf('.')))
+            && x <= Long.parseLong(argument.substring(argument.lastIndexOf('.') + 1));
+    }
+
+    private static void allWays(Ridge ridge, String[] call) {
+        int arguments = call.length - 1 - (call[call.length - 1].equals("!") ? 1 : 0);
+        List<List<String>> ways = new ArrayList<>();
+        ways.add(new ArrayList<>());
+        for (int k = 1; k <= arguments; k++) {
+            List<List<String>> longer = new ArrayList<>();
+            for (List<String> way : ways) {
+                for (String value : values(ridge, call[k])) {
+                    List<String> one = new ArrayList<>(way);
+                    one.add(value);
+                    longer.add(one);
+                }
+            }
+            ways = longer;
+        }
+        for (List<String> way : ways) {
+            String told = call[0] + "(" + String.join(",", way) + ")";
+            int refusal = refusal(ridge, call, way);
+            if (refusal != 0) due(ridge, told, refusal);
+            else isAnswered(ridge, told);
         }
     }
 
-    private static void unknown(String name, Object... given) throws Exception {
-        due(Check.UNKNOWN, name, given);
-    }
-
-    private static void outside(String name, Object... given) throws Exception {
-        due(Check.OUTSIDE, name, given);
-    }
-
-    private static void withCoast() throws Exception {
-        FogNets x = Check.coast(CoastTest.COAST);
-        x.seed(21);
-        x.hour(3);
-        x.lamp(true);
-        x.got(0, 1, 3);
-        x.write(0, 12);
-        x.feed('f');
-        set(x);
-        for (int bad : new int[] {-1, 256, MIN, MAX}) outside("feed", bad);
-        for (int bad : new int[] {-1, 16, MIN, MAX}) outside("told", bad);
-        for (int bad : new int[] {-1, 2, 6, MIN, MAX}) noSuchPost(bad);
-        for (int bad : new int[] {-1, 2, MIN, MAX}) noSuchVillageGoatImage(bad);
-        for (int bad : new int[] {-1, 2, MIN, MAX}) noSuchPart(bad);
-        for (int bad : new int[] {-1, 100, MIN, MAX}) noSuchNumber(bad);
-        for (int bad : new int[] {0, -1, 61, MIN, MAX}) {
-            outside("hour", bad);
-            outside("drift", bad);
+    /** What is due of a call, or 0, if it must not be refused. */
+    private static int refusal(Ridge ridge, String[] call, List<String> given) {
+        boolean unknown = call[0].equals("bestTwo") && given.get(0).equals(given.get(1));
+        boolean outside = false;
+        for (int k = 0; k < given.size(); k++) {
+            if (isTaken(ridge, call[k + 1], given.get(k))) continue;
+            if (ridge.howMany(call[k + 1]) != Check.NONE) unknown = true;
+            else outside = true;
         }
-        for (int bad : new int[] {0, -1, 31, MIN, MAX}) outside("undo", bad);
-        due(Check.NOT, "undo", 5);
-        due(Check.NOT, "undo", 30);
-        due(Check.NOT, "goBack", 0);
-        due(Check.NOT, "goBack", 1);
-        due(Check.NOT, "move", 0, 1);
-        due(Check.NOT, "move", 0, 3);
-        for (int bad : new int[] {-1, 5, 12, MIN, MAX}) unknown("move", 0, bad);
-        unknown("bestTwo", 1, 1, 0);
-        unknown("bestTwo", 1, 1, 7);
-        Check.due("the seed is as it was", x.seed(0), 21);
+        if (unknown) return Check.UNKNOWN;
+        if (outside) return Check.OUTSIDE;
+        return call[call.length - 1].equals("!") && ridge.cells == 0 ? Check.NOT : 0;
     }
 
-    private static void noSuchPost(int p) throws Exception {
-        unknown("post", p, 0);
-        unknown("post", p, 99);
-        unknown("lick", p, 1);
-        unknown("lick", p, 0);
-        unknown("mesh", p, 1);
-        unknown("mesh", p, 10);
-        unknown("move", p, 0);
-        unknown("move", p, 1);
-        unknown("gets", p, 1);
-        unknown("gets", p, 100);
-        unknown("level", p, 1);
-        unknown("level", p, 100);
-        unknown("shadow", p);
-        unknown("bestMesh", p, 0);
-        unknown("bestMesh", p, 2);
-        unknown("bestCell", p, 0);
-        unknown("bestCell", p, 2);
-        unknown("bestTwo", p, 0, 0);
-        unknown("bestTwo", 0, p, 2);
-        unknown("bestTwo", p, p, 0);
-        unknown("got", p, 0, 0);
-        unknown("got", p, 2, 0);
-        unknown("needs", p, 0, 0);
-        unknown("needs", p, 0, 41);
-        unknown("write", p, 0);
-        unknown("write", p, 100);
+    private static void isAnswered(Ridge ridge, String told) {
+        Script.dueAnswer("no refusal", ridge.calls + told);
     }
 
-    private static void noSuchVillageGoatImage(int k) throws Exception {
-        unknown("village", k, 0);
-        unknown("village", k, 5);
-        unknown("goat", k, 0);
-        unknown("goat", k, 2);
-        unknown("carry", k);
-        unknown("thirsty", k);
-        unknown("lasts", k);
-        unknown("share", 1, k);
-        unknown("share", 1000, k);
-        unknown("yards", k, 0);
-        unknown("yards", k, 2);
-        unknown("keep", k);
-        unknown("goBack", k);
-    }
-
-    /** A side or a 'what' that there is not. */
-    private static void noSuchPart(int k) throws Exception {
-        outside("goat", 0, k);
-        outside("fog", 0, k);
-        outside("fog", -1, k);
-        outside("fog", k == -1 ? -2 : k, 0);
-        outside("bestMesh", 0, k);
-        outside("bestCell", 0, k);
-        outside("bestTwo", 0, 1, k);
-        outside("led", 9, k, 1);
-        outside("yards", 0, k);
-        outside("got", 0, k, 1);
-        outside("lookAt", k);
-        outside("needs", 0, k, 1);
-        outside("thick", k == 2 ? 3 : k);
-        outside("post", 0, k == 2 ? 5 : k);
-        outside("village", 0, k == 2 ? 5 : k);
-    }
-
-    private static void noSuchNumber(int n) throws Exception {
-        outside("lick", 0, n == -1 ? 0 : n);
-        outside("mesh", 0, n == 100 ? 10 : n);
-        outside("gets", 0, n);
-        outside("level", 0, n);
-        outside("lampCosts", n);
-        outside("apart", n);
-        outside("share", n == 100 ? 1000 : n, 0);
-        outside("led", n, 0, 0);
-        outside("led", 99, 0, n == 100 ? 99 : n);
-        outside("clear", n == 100 ? 61 : n, 50);
-        outside("clear", 5, n == 100 ? 101 : n);
-        outside("got", 0, 0, n == 100 ? 41 : n);
-        outside("needs", 0, 0, n == 100 ? 41 : n);
-        outside("write", 0, n);
-    }
-
-    private static void without() throws Exception {
-        set(new FogNets());
-        for (int k : new int[] {0, 1, -1, 5}) {
-            unknown("post", k, 0);
-            unknown("goat", k, 9);
-            unknown("lick", k, 1);
-            unknown("mesh", k, 1);
-            unknown("move", k, 0);
-            unknown("gets", k, 1);
-            unknown("level", k, 0);
-            unknown("shadow", k);
-            unknown("bestMesh", k, 0);
-            unknown("bestCell", k, 0);
-            unknown("bestTwo", k, k + 1, 0);
-            unknown("yards", k, 0);
-            unknown("got", k, 0, 0);
-            unknown("needs", k, 0, 0);
-            unknown("write", k, 0);
+    /** h is an HOUR of the text, or NONE. */
+    private static void fog(Ridge ridge) {
+        int[] hours = {Check.NONE, 0, ridge.hours - 1, -2, ridge.hours, Integer.MIN_VALUE, Integer.MAX_VALUE};
+        for (int h : hours) {
+            for (int what : new int[] {0, 1, -1, 2, Integer.MIN_VALUE, Integer.MAX_VALUE}) {
+                String told = "fog(" + h + "," + what + ")";
+                boolean outside = what < 0 || what > 1 || h < Check.NONE || h >= ridge.hours;
+                if (outside) due(ridge, told, Check.OUTSIDE);
+                else if (h == Check.NONE && ridge.cells == 0) due(ridge, told, Check.NOT);
+                else isAnswered(ridge, told);
+            }
         }
-        outside("fog", 0, 0);
-        outside("fog", -1, 2);
-        due(Check.NOT, "fog", -1, 1);
-        outside("hour", 0);
-        due(Check.NOT, "hour", 60);
-        outside("drift", 61);
-        due(Check.NOT, "drift", 1);
-        unknown("carry", 2);
-        due(Check.NOT, "carry", 0);
-        due(Check.NOT, "lamp", true);
-        due(Check.NOT, "lamp", false);
-        outside("undo", 31);
-        due(Check.NOT, "undo", 1);
-        due(Check.NOT, "left");
-        outside("lampCosts", 100);
-        due(Check.NOT, "lampCosts", 0);
-        unknown("thirsty", 2);
-        due(Check.NOT, "thirsty", 1);
-        unknown("lasts", -1);
-        due(Check.NOT, "both");
-        outside("apart", -1);
-        due(Check.NOT, "apart", 0);
-        unknown("share", 1000, 2);
-        outside("share", 1000, 0);
-        outside("led", 0, 0, 0);
-        outside("led", 1, 2, 0);
-        due(Check.NOT, "led", 1, 0, 0);
-        outside("thick", 3);
-        due(Check.NOT, "thick", 0);
-        outside("lookAt", 2);
-        due(Check.NOT, "lookAt", 0);
-        unknown("goBack", 2);
-        due(Check.NOT, "goBack", 1);
-        Check.due("the seed is as it was", asked.seed(0), 0);
     }
 
-    private static void full() throws Exception {
-        FogNets x = Check.coast("f1 0;p0 0 1 0;");
-        for (int n = 0; n < 240; n++) x.feed(' ');
-        for (int n = 0; n < 6; n++) x.got(0, 0, 0);
-        for (int n = 0; n < 20; n++) x.write(0, 0);
-        for (int n = 0; n < 151; n++) x.hour(60);
-        set(x);
-        due(Check.FULL, "feed", 32);
-        due(Check.OUTSIDE, "feed", 256);
-        due(Check.FULL, "got", 0, 0, 0);
-        due(Check.OUTSIDE, "got", 0, 0, 41);
-        due(Check.UNKNOWN, "got", 1, 0, 0);
-        due(Check.FULL, "write", 0, 0);
-        due(Check.OUTSIDE, "write", 0, 100);
-        due(Check.UNKNOWN, "write", 1, 0);
-        due(Check.FULL, "hour", 1);
-        due(Check.OUTSIDE, "hour", 61);
-        due(Check.FULL, "drift", 60);
-        due(Check.OUTSIDE, "drift", 0);
-        Check.due("the seed is as it was", x.seed(0), 0);
+    /** A CELL that has a POST is NOT to be moved to. */
+    private static void move(Ridge ridge) {
+        String[] cells = {"0", "1", "2", "3", "4", "5", "6", "7", "8", "9", "10", "11", "12", "-1", "MIN", "MAX"};
+        for (String p : values(ridge, "POST")) {
+            for (String a : cells) {
+                String told = "move(" + p + "," + a + ")";
+                boolean known = isTaken(ridge, "POST", p) && !a.startsWith("M") && isTaken(ridge, "CELL", a);
+                if (!known) due(ridge, told, Check.UNKNOWN);
+                else if (hasPost(ridge, a)) due(ridge, told, Check.NOT);
+                else isAnswered(ridge, told);
+            }
+        }
+    }
+
+    private static boolean hasPost(Ridge ridge, String a) {
+        return ridge.calls.contains(";p" + a + " ");
+    }
+
+    /** A drop is 0 to x less 1. */
+    private static void led(Ridge ridge) {
+        int[] some = {0, 1, 98, 99, 100, -1, Integer.MIN_VALUE, Integer.MAX_VALUE};
+        for (int x : some) {
+            for (int side : new int[] {0, 1, -1, 2, Integer.MIN_VALUE, Integer.MAX_VALUE}) {
+                for (int i : some) {
+                    String told = "led(" + x + "," + side + "," + i + ")";
+                    boolean outside = x < 0 || x > 99 || side < 0 || side > 1 || i < 0 || i >= x;
+                    if (outside) due(ridge, told, Check.OUTSIDE);
+                    else if (ridge.cells == 0) due(ridge, told, Check.NOT);
+                    else isAnswered(ridge, told);
+                }
+            }
+        }
+    }
+
+    private static void undo(Ridge ridge) {
+        FogNets x = Script.done(ridge.calls);
+        int kept = x.told(15);
+        for (int n : new int[] {0, -1, 31, Integer.MIN_VALUE, Integer.MAX_VALUE}) due(ridge, "undo(" + n + ")", Check.OUTSIDE);
+        for (int n = 1; n <= 30; n++) {
+            if (n > kept) due(ridge, "undo(" + n + ")", Check.NOT);
+            else isAnswered(ridge, "undo(" + n + ")");
+        }
+    }
+
+    private static void goBack(Ridge ridge) {
+        for (int i : new int[] {-1, 2, Integer.MIN_VALUE, Integer.MAX_VALUE}) due(ridge, "goBack(" + i + ")", Check.UNKNOWN);
+        for (int i = 0; i <= 1; i++) {
+            if (!ridge.calls.contains("keep(" + i + ")")) due(ridge, "goBack(" + i + ")", Check.NOT);
+            else isAnswered(ridge, "goBack(" + i + ")");
+        }
+    }
+
+    /** FULL comes last: what is wrong besides is told first. */
+    private static void full() {
+        String setup = "coast<f1 0;p0 0 1 0;> ";
+        Script.edge("FULL: feed", setup + "240xfeed(32) feed(32)=FULL feed(-1)=OUTSIDE feed(256)=OUTSIDE");
+        Script.edge("FULL: got", setup + "6xgot(0,0,0) got(0,0,0)=FULL got(0,1,40)=FULL got(0,0,41)=OUTSIDE got(0,2,0)=OUTSIDE "
+            + "got(1,0,0)=UNKNOWN got(1,2,41)=UNKNOWN");
+        Script.edge("FULL: write", setup + "20xwrite(0,0) write(0,0)=FULL write(0,99)=FULL write(0,100)=OUTSIDE write(1,0)=UNKNOWN "
+            + "write(1,100)=UNKNOWN");
+        String late = setup + "seed(4) 151xhour(60) ";
+        Script.edge("FULL: hour", late + "hour(1)=FULL hour(60)=FULL hour(0)=OUTSIDE hour(61)=OUTSIDE");
+        Script.edge("FULL: drift", late + "drift(1)=FULL drift(60)=FULL drift(0)=OUTSIDE drift(61)=OUTSIDE");
+        Check.due("many calls were tried", tries > 1000 ? 1 : 0, 1);
     }
 }

@@ -1,5 +1,8 @@
 /** All that can be seen of an object without changing it, in one text. */
 final class Seen {
+    /** How many calls all() makes. */
+    static final int CALLS = 16 + 1 + 6 * 5 + 2 * 5 + 4 * 2 + 13 * 2 + 1 + 3 + 2;
+
     private Seen() {
     }
 
@@ -17,6 +20,7 @@ final class Seen {
         for (int h = -1; h < 12; h++) all.append(' ').append(x.fog(h, 0)).append(' ').append(x.fog(h, 1));
         all.append(" judge ").append(x.judge()).append(" thick");
         for (int what = 0; what < 3; what++) all.append(' ').append(x.thick(what));
+        all.append(" lookAt ").append(x.lookAt(0)).append(' ').append(x.lookAt(1));
         return all.toString();
     }
 }
