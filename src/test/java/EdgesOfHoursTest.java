@@ -1,5 +1,5 @@
 /**
- * Each boundary that section 2 of the document, DAYS and HOURS, and promises 5 to 17 name, sentence by
+ * Each boundary that section 2 of the document, DAYS and HOURS, and promises 10 to 15 name, sentence by
  * sentence. What a test is called begins with the document's words.
  */
 public final class EdgesOfHoursTest {

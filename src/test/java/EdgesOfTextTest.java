@@ -150,6 +150,9 @@ public final class EdgesOfTextTest {
             + "village(0,1)=0 village(1,1)=0");
         edge("hours, posts, goats of an older text", "coast<f2 0;h1 9;h1 9;p1 3 9 1;g1 5;>=1 coast<f2 0;>=0 coast<f2 0;>=0 "
             + "told(2)=1 told(3)=0 told(4)=0 fog(NONE,0)=0 fog(NONE,1)=0 village(1,4)=0");
+        edge("an older text of more goats", "coast<f1 0;g0 20;g0 20;>=0 coast<f1 0;>=0 coast<f1 0;h0 10;p0 0 99 0;g0 1;>=1 hour(1)=9 "
+            + "post(0,4)=8 told(12)=1 coast<f1 0;>=0 coast<f1 0;h0 10;p0 0 99 0;>=1 hour(1)=9 post(0,4)=9 told(12)=0");
+        edge("a text with a fault of more goats", "coast<f1 0;g0 20;g0 20;x>=-11 coast<f1 0;h0 10;p0 0 99 0;>=1 hour(1)=9 post(0,4)=9");
         edge("an older text of more posts", "coast<f2 0;p0 3 9 1;p1 3 9 1;>=2 coast<f2 0;>=0 coast<f2 0;p1 3 9 0;>=1 "
             + "village(0,4)=1 village(1,4)=0 move(0,0)=1");
     }

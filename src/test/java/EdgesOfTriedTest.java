@@ -147,6 +147,8 @@ public final class EdgesOfTriedTest {
     private static void bestTwo() {
         edge("BEST TWO: each one of both's own, as all have a POST", "coast<f2 0;h0 40;p0 9 1 0;p1 5 1 1;>=2 bestTwo(0,1,0)=100 "
             + "bestTwo(0,1,1)=126 bestTwo(1,0,0)=1 bestTwo(1,0,1)=126");
+        edge("BEST TWO: the first POST is VILLAGE 1's", "coast<f2 0;h0 40;p0 5 1 1;p1 5 1 0;>=2 bestTwo(0,1,0)=1 bestTwo(0,1,1)=70 "
+            + "bestTwo(1,0,0)=1 bestTwo(1,0,1)=70");
         edge("BEST TWO: each where it is", "coast<f2 0;h0 40;p0 5 1 0;p1 9 1 1;>=2 bestTwo(0,1,0)=1 bestTwo(0,1,1)=126");
         edge("BEST TWO: CELLS of two figures", "coast<f12 0;h0 38;p0 4 1 0;p1 0 1 1;p9 5 1 0;>=3 bestTwo(0,1,0)=1110 "
             + "bestTwo(1,0,0)=1011 bestTwo(0,1,1)=119");
