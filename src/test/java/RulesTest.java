@@ -6,6 +6,11 @@ import java.lang.reflect.Method;
 import java.lang.reflect.Modifier;
 import java.nio.file.Files;
 import java.nio.file.Path;
+import java.util.ArrayList;
+import java.util.Arrays;
+import java.util.Collections;
+import java.util.IdentityHashMap;
+import java.util.List;
 import java.util.Set;
 import java.util.TreeSet;
 import java.util.regex.Matcher;
@@ -20,11 +25,15 @@ public final class RulesTest {
         + "needs(int,int,int) post(int,int) seed(int) shadow(int) share(int,int) tear() thick(int) thirsty(int) "
         + "told(int) undo(int) village(int,int) write(int,int) yards(int,int)";
 
+    private static final Path SOURCE = Path.of("src/main/java/FogNets.java");
+
     public static void main(String[] args) throws Exception {
         face();
         constants();
         innerClasses();
         source();
+        library();
+        room();
         nothingIsMade();
         Check.end();
     }
@@ -77,12 +86,24 @@ public final class RulesTest {
             yes(c.getName() + " is static", Modifier.isStatic(c.getModifiers()));
             yes(c.getName() + " is not public", !Modifier.isPublic(c.getModifiers()) && !Modifier.isProtected(c.getModifiers()));
             yes(c.getName() + " has twenty fields at most", c.getDeclaredFields().length <= 20);
+            for (Method m : c.getDeclaredMethods()) {
+                yes(c.getName() + "." + m.getName() + " has no public one's name", !(" " + FACE).contains(" " + m.getName() + "("));
+            }
+            for (Field f : c.getDeclaredFields()) {
+                yes(c.getName() + "." + f.getName() + " is of the object, or final", !Modifier.isStatic(f.getModifiers())
+                    || Modifier.isFinal(f.getModifiers()));
+            }
         }
     }
 
+    /** The source without its comments. */
+    private static String code() throws IOException {
+        return Files.readString(SOURCE).replaceAll("(?s)/\\*.*?\\*/", "").replaceAll("//[^\n]*", "");
+    }
+
     private static void source() throws IOException {
-        String text = Files.readString(Path.of("src/main/java/FogNets.java"));
-        String code = text.replaceAll("(?s)/\\*.*?\\*/", "").replaceAll("//[^\n]*", "");
+        String text = Files.readString(SOURCE);
+        String code = code();
         for (String word : new String[] {"throw", "throws", "try", "catch", "synchronized", "assert", "package", "import",
             "String", "Exact", "float", "double", "equals", "hashCode", "toString", "System.currentTimeMillis", "Random",
             "Thread", "File"}) {
@@ -100,6 +121,53 @@ public final class RulesTest {
             yes(method.group(2) + " takes seven at most", method.group(3).split(",").length <= 7);
         }
         yes("methods were seen", seen > 43);
+    }
+
+    /** What is called of a class by name must stand in rule 4; what is made must be a row or one of our own. */
+    private static void library() throws IOException {
+        String code = code();
+        Set<String> called = new TreeSet<>();
+        Matcher call = Pattern.compile("\\b([A-Z]\\w*[a-z]\\w*)\\.(\\w+)").matcher(code);
+        while (call.find()) called.add(call.group(1) + "." + call.group(2));
+        yes("the library's calls " + called, Set.of("Integer.bitCount", "Long.bitCount", "Math.abs", "Math.max", "Math.min",
+            "System.arraycopy").containsAll(called));
+        Set<String> own = new TreeSet<>();
+        for (Class<?> c : FogNets.class.getDeclaredClasses()) own.add(c.getSimpleName());
+        Matcher made = Pattern.compile("\\bnew (\\w+)(.)").matcher(code);
+        while (made.find()) {
+            yes("new " + made.group(1), own.contains(made.group(1)) || made.group(1).equals("int") && made.group(2).equals("["));
+        }
+    }
+
+    /** A run's room has some 600,000 objects and arrays, 7.3 million fields and elements: a thousand FogNets need less. */
+    private static void room() throws IllegalAccessException {
+        List<Object> found = new ArrayList<>();
+        found.add(new FogNets());
+        Set<Object> seen = Collections.newSetFromMap(new IdentityHashMap<>());
+        seen.addAll(found);
+        int parts = 0;
+        for (int i = 0; i < found.size(); i++) {
+            Object x = found.get(i);
+            List<Object> held = new ArrayList<>();
+            if (x instanceof int[] row) {
+                parts += row.length;
+            } else if (x instanceof Object[] row) {
+                parts += row.length;
+                held.addAll(Arrays.asList(row));
+            } else {
+                for (Field f : x.getClass().getDeclaredFields()) {
+                    if (Modifier.isStatic(f.getModifiers())) continue;
+                    parts++;
+                    f.setAccessible(true);
+                    if (!f.getType().isPrimitive()) held.add(f.get(x));
+                }
+            }
+            for (Object h : held) {
+                if (h != null && seen.add(h)) found.add(h);
+            }
+        }
+        yes("objects and arrays of one FogNets: " + found.size(), found.size() > 1 && found.size() <= 600);
+        yes("fields and elements of one FogNets: " + parts, parts > 1 && parts <= 7300);
     }
 
     /** All calls of a run live in one room: only the constructor makes anything. */
